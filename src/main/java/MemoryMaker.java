@@ -600,20 +600,14 @@ public final class MemoryMaker {
             }
             int below = 0;
             for (int step = 2048; step > 0; step /= 2) {
-                if (!reaches(below + step, n, goal)) {
-                    below += step;
+                // stops at the goal, as the whole power of a large t is more than a long holds
+                long power = 18;
+                for (int i = 0; i < n && power < goal; i++) {
+                    power *= below + step;
                 }
+                below = power < goal ? below + step : below;
             }
             return below + 1;
-        }
-
-        /** Stops at the goal, as the whole power of a large t is more than a long holds. */
-        private static boolean reaches(int t, int n, long goal) {
-            long power = 18;
-            for (int i = 0; i < n && power < goal; i++) {
-                power *= t;
-            }
-            return power >= goal;
         }
 
         private void sizeStages() {

@@ -223,6 +223,25 @@ public final class PromiseTest {
         dueSpec("words 123456;", NONE, 2, 6);
         dueSpec("marginmargin 4;", NONE, 1, 0);
         dueSpec("mux -1;", NONE, 1, 4);
+        dueSpec("mux;", NONE, 1, 3);
+        dueSpec("wish;", NONE, 1, 4);
+        dueSpec("bad;", NONE, 1, 3);
+        dueSpec("bad 1;", NONE, 1, 5);
+        dueSpec("tux 4;", NONE, 1, 0);
+        dueSpec("muxz 4;", NONE, 1, 0);
+        dueSpec("mux 4;z", NONE, 1, 6);
+        faultAtCut("mux 44444", 5);
+        faultAtCut("muxxxxxxx", 3);
+    }
+
+    /** Bytes that end() took away are no part of a token. */
+    private void faultAtCut(String text, int n) {
+        MemoryMaker x = new MemoryMaker();
+        Tapes.put(x, text);
+        x.end(n);
+        due("spec of a cut " + text, x.spec(), NONE);
+        due("fault of a cut " + text, x.fault(0), 1);
+        due("place of a cut " + text, x.fault(1), n);
     }
 
     private void faultOrder() {
@@ -426,6 +445,20 @@ public final class PromiseTest {
         due("written beside", x.read(0), 2);
         x.heal(0, 0);
         due("the column again, with its old bit", x.read(0), 3);
+        // the last of four spare rows, of the longest there can be
+        x = told("words 1024;bits 32;mux 8;spare 4 2;bad 0 0 1;bad 1 1 1;bad 2 2 1;bad 127 255 1;");
+        x.write(1023, LOW);
+        x.write(1016, HIGH);
+        due("the last address", x.read(1023), LOW);
+        due("in the last row", x.place(1023, 31, 0), 131);
+        due("beside it", x.read(1016), HIGH);
+        due("both", x.count(14), 32);
+        x = told("words 512;bits 32;mux 1;spare 4 2;bad 0 0 1;bad 1 0 1;bad 2 0 1;bad 3 0 1;bad 4 0 1;"
+            + "bad 511 1 1;bad 511 2 1;bad 510 3 1;bad 510 4 1;bad 509 31 1;bad 508 31 1;");
+        x.write(511, -1);
+        due("two columns and two rows", x.count(12) * 10 + x.count(13), 22);
+        due("bits in spare rows and columns", x.read(511), -1);
+        due("the last row", x.place(511, 31, 0) * 100 + x.place(511, 31, 1), 51333);
     }
 
     // ---- promise 10
@@ -788,6 +821,9 @@ public final class PromiseTest {
         due("one lower", x.most(124, 99), 32);
         due("all", x.most(HIGH, HIGH), 1024);
         due("none", x.most(0, 0), NONE);
+        // 16 words by mux 1: 9 columns and 18 rows in all
+        due("fewest words, least wide", x.most(9 * 2 + 48 + x16(), 18 * 3 + 30), 16);
+        due("one narrower than that", x.most(9 * 2 + 47 + x16(), 18 * 3 + 30), NONE);
         due("below", x.most(LOW, HIGH), NONE);
         due("below, too", x.most(HIGH, -1), NONE);
         x = told("mux 8;bad 0 63 1;");
@@ -797,6 +833,11 @@ public final class PromiseTest {
             due("just so much", x.most(x.shape(mux, 2), x.shape(mux, 3)), 1024);
         }
         due("all else stays", x.count(0), 1024);
+    }
+
+    private static int x16() {
+        MemoryMaker x = told("words 16;");
+        return x.shape(1, 19 + x.shape(1, 7));
     }
 
     // ---- promise 23
@@ -844,7 +885,14 @@ public final class PromiseTest {
         due("mux", x.count(2), 0);
         x.spec();
         due("the tape's bytes", x.count(0), 16);
-        x.image(2);
+        x = new MemoryMaker();
+        x.set(2, 8);
+        x.set(0, 32);
+        x.image(1);
+        x.set(0, 64);
+        x.again(1);
+        due("why, level 1", x.why(1), 5);
+        due("why, level 2", x.why(2), 7);
         x.set(7, 99);
         x.image(2);
         x.set(7, 98);
