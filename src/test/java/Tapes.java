@@ -30,6 +30,15 @@ final class Tapes {
         return put(x, text) ? x.spec() : -99;
     }
 
+    /** A new maker with a SPEC that is told; the text must be without a FAULT. */
+    static MemoryMaker told(String text) {
+        MemoryMaker x = new MemoryMaker();
+        if (spec(x, text) < 0) {
+            throw new IllegalArgumentException("fault " + x.fault(0) + " at " + x.fault(1) + " of " + text);
+        }
+        return x;
+    }
+
     static String view(MemoryMaker x, int view) {
         StringBuilder all = new StringBuilder();
         int n = x.view(view, -1);
