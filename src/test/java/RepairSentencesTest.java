@@ -86,7 +86,7 @@ public final class RepairSentencesTest {
         // twelve columns, of which the last two are given up
         dueGiven("mux 4;spare 4 2;bad 0 0 1;bad 0 1 1;bad 0 2 1;bad 5 3 1;bad 5 4 1;bad 5 5 1;bad 9 6 1;bad 9 7 1;bad 9 8 1;"
             + "bad 15 9 1;bad 14 30 1;bad 13 31 1;", new int[] {0, 5, 9, 13}, new int[] {9, 30});
-        dueGiven("mux 4;spare 3 2;bad 0 0 1;bad 0 1 1;bad 0 2 1;bad 5 3 1;bad 5 4 1;bad 5 5 1;bad 9 6 1;bad 9 7 1;bad 9 8 1;"
+        dueGiven("mux 4;spare 3 2;bad 0 10 1;bad 0 1 1;bad 0 2 1;bad 5 3 1;bad 5 4 1;bad 5 5 1;bad 9 6 1;bad 9 7 1;bad 9 8 1;"
             + "bad 9 9 1;bad 14 30 1;bad 13 31 1;", new int[] {0, 5, 9}, new int[] {30, 31});
     }
 
