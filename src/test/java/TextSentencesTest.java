@@ -283,6 +283,8 @@ public final class TextSentencesTest {
         dueFault("bits 99999999999999999999;", 1, 5);
         dueFault("bits 4294967304;", 1, 5);
         dueFault("bad 1 2 0000000;", 1, 8);
+        // a word of 9 letters is at fault as one of 8 is that no LINE has
+        dueFault("squaress 9;", 1, 0);
         dueFault("squaresss 9;", 1, 0);
         dueFault("bits 9;bitsbitsbits 9;", 1, 7);
         dueFault("wish squaresss;", 1, 5);
